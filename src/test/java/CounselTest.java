@@ -347,6 +347,10 @@ public final class CounselTest {
         WebCourt ring = Check.court("knot a;knot b;knot c;line b c;line a b;line a c;");
         Check.due("bridge(0) of a ring", ring.bridge(0), 0);
         Check.due("bridge(1) of a ring", ring.bridge(1), 3);
+        WebCourt eight = Check.court("knot a;knot b;knot c;knot d;knot e;knot f;knot g;knot h;line a b;line b c;"
+                + "line c d;line d e;line e f;line f g;line g h;line h a;");
+        Check.due("bridge(0) of a ring of eight", eight.bridge(0), 0);
+        Check.due("bridge(1) of a ring of eight", eight.bridge(1), 8);
     }
 
     private static void forbidding() {

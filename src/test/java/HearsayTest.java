@@ -195,5 +195,12 @@ public final class HearsayTest {
         Check.due("0 .. 30", strong.sure(1, 0), 30);
         strong.heard(0, 30, true);
         Check.due("30 alone", strong.fits(0), 1);
+        Check.due("the least is 30", strong.sure(0, 0), 30);
+        Check.due("the greatest is 30", strong.sure(1, 0), 30);
+        WebCourt weak = Check.court("knot k;plea b strong 20;case x at k pleads b;law pleads;");
+        weak.heard(0, 1, false);
+        Check.due("0 alone", weak.fits(0), 1);
+        Check.due("the least is 0", weak.sure(0, 0), 0);
+        Check.due("the greatest is 0", weak.sure(1, 0), 0);
     }
 }

@@ -89,6 +89,22 @@ public final class TextTest {
         Check.feed(x, "knot axy;bench axy;knot axy;");
         Check.due("web() of a name twice", x.web(), NONE);
         Check.due("fault(1)", x.fault(1), 24);
+        // Bytes behind the end are no part of a token.
+        x.end(0);
+        Check.feed(x, "draw 1234567;");
+        x.end(8);
+        Check.due("web() of a number cut", x.web(), NONE);
+        Check.due("only the end is missed", x.fault(0) * 100 + x.fault(1), 208);
+        x.end(0);
+        Check.feed(x, "draw 12x;");
+        x.end(7);
+        Check.due("web() of a letter cut", x.web(), NONE);
+        Check.due("only the end is missed there", x.fault(0) * 100 + x.fault(1), 207);
+        x.end(0);
+        Check.feed(x, "knot knots;");
+        x.end(9);
+        Check.due("web() of a word cut", x.web(), NONE);
+        Check.due("the word is knot", x.fault(0) * 100 + x.fault(1), 205);
     }
 
     private static void readingAnew() {
