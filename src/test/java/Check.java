@@ -1,4 +1,9 @@
+import java.lang.reflect.Method;
+import java.lang.reflect.Modifier;
 import java.nio.charset.StandardCharsets;
+import java.util.ArrayList;
+import java.util.Comparator;
+import java.util.List;
 
 /** What the tests share: answers against what is due, and webs from texts. */
 final class Check {
@@ -18,6 +23,18 @@ final class Check {
 
     static void due(String call, boolean got, boolean want) {
         due(call, got ? 1 : 0, want ? 1 : 0);
+    }
+
+    /** The public methods, always in the same order. */
+    static List<Method> face() {
+        List<Method> methods = new ArrayList<>();
+        for (Method method : WebCourt.class.getDeclaredMethods()) {
+            if (Modifier.isPublic(method.getModifiers())) {
+                methods.add(method);
+            }
+        }
+        methods.sort(Comparator.comparing(Method::getName));
+        return methods;
     }
 
     /** Feeds a text to the tape, which must be empty. */

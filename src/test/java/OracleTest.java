@@ -1,9 +1,6 @@
 import java.lang.reflect.Method;
-import java.lang.reflect.Modifier;
 import java.nio.charset.StandardCharsets;
-import java.util.ArrayList;
 import java.util.Arrays;
-import java.util.Comparator;
 import java.util.List;
 import java.util.Random;
 
@@ -22,13 +19,7 @@ public final class OracleTest {
     }
 
     public static void main(String[] args) throws Exception {
-        List<Method> methods = new ArrayList<>();
-        for (Method method : WebCourt.class.getDeclaredMethods()) {
-            if (Modifier.isPublic(method.getModifiers())) {
-                methods.add(method);
-            }
-        }
-        methods.sort(Comparator.comparing(Method::getName));
+        List<Method> methods = Check.face();
         for (int seed = 1; seed <= RUNS; seed++) {
             new OracleTest(seed).run(seed, methods);
         }

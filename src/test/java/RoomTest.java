@@ -1,8 +1,5 @@
 import java.lang.management.ManagementFactory;
 import java.lang.reflect.Method;
-import java.lang.reflect.Modifier;
-import java.util.ArrayList;
-import java.util.Comparator;
 import java.util.List;
 import java.util.Random;
 
@@ -18,13 +15,7 @@ public final class RoomTest {
             + "law pleads*many-before*2+stays%(kin+1)-hour/3+(not(pleads>9)and many)-5-(hour=2)*3+1*1*1*1*1-1;";
 
     public static void main(String[] args) throws Exception {
-        List<Method> methods = new ArrayList<>();
-        for (Method method : WebCourt.class.getDeclaredMethods()) {
-            if (Modifier.isPublic(method.getModifiers())) {
-                methods.add(method);
-            }
-        }
-        methods.sort(Comparator.comparing(Method::getName));
+        List<Method> methods = Check.face();
         anyArguments(methods);
         anyBytes();
         room();
