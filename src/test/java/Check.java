@@ -1,14 +1,25 @@
+import java.io.IOException;
+import java.io.UncheckedIOException;
 import java.lang.reflect.Method;
 import java.lang.reflect.Modifier;
 import java.nio.charset.StandardCharsets;
+import java.nio.file.Files;
+import java.nio.file.Path;
 import java.util.ArrayList;
 import java.util.Comparator;
 import java.util.List;
+import java.util.Set;
+import java.util.TreeSet;
 
 /** What the tests share: answers against what is due, and webs from texts. */
 final class Check {
+    private static final Set<Integer> PROMISES = new TreeSet<>();
     private static int wrong = 0;
     private static int checked = 0;
+    private static int sentences = 0;
+    private static int checkedAhead = 0;
+    private static String sentence = "";
+    private static String document = "";
 
     private Check() {
     }
@@ -17,8 +28,52 @@ final class Check {
         checked++;
         if (got != want) {
             wrong++;
-            System.out.println(call + " answered " + got + ", due is " + want);
+            System.out.println(sentence + call + " answered " + got + ", due is " + want);
         }
+    }
+
+    /** What follows tests this sentence of a promise (0: of the Terms), in the document's own words. */
+    static void says(int promise, String words) {
+        closeSentence();
+        sentence = "[" + (promise == 0 ? "Terms" : "Promise " + promise) + ": " + words + "] ";
+        sentences++;
+        checkedAhead = checked;
+        PROMISES.add(promise);
+        String head = promise == 0 ? "## Terms" : "## Promise " + promise + ":";
+        int from = document().indexOf(head);
+        int to = from < 0 ? -1 : document().indexOf(" ## ", from);
+        if (to < 0 || !document().substring(from, to).contains(words)) {
+            wrong++;
+            System.out.println(sentence + "does not stand in the document");
+        }
+    }
+
+    private static void closeSentence() {
+        if (sentences > 0 && checked == checkedAhead) {
+            wrong++;
+            System.out.println(sentence + "has no test");
+        }
+        sentence = "";
+    }
+
+    private static String document() {
+        if (document.isEmpty()) {
+            try {
+                document = Files.readString(Path.of("../shared/DOC.md")).replaceAll("\\s+", " ");
+            } catch (IOException e) {
+                throw new UncheckedIOException(e);
+            }
+        }
+        return document;
+    }
+
+    /** Each promise, and the Terms, had a sentence tested. */
+    static void allPromises(int last) {
+        closeSentence();
+        for (int promise = 0; promise <= last; promise++) {
+            due("a sentence of promise " + promise + " is tested", PROMISES.contains(promise), true);
+        }
+        System.out.println(sentences + " sentences of the document were tested");
     }
 
     static void due(String call, boolean got, boolean want) {
@@ -84,6 +139,20 @@ final class Check {
         due("fault(0) of " + text, x.fault(0), 0);
         due("fault(1) of " + text, x.fault(1), WebCourt.NONE);
         return x;
+    }
+
+    /** A call on one of two objects that were alike has left it like the other one; both are used up then. */
+    static void same(String call, WebCourt one, WebCourt twin) {
+        List<String> left = Seen.all(one);
+        List<String> right = Seen.all(twin);
+        due("how much is seen behind " + call, left.size(), right.size());
+        String unlike = "";
+        for (int i = 0; i < left.size() && i < right.size() && unlike.isEmpty(); i++) {
+            if (!left.get(i).equals(right.get(i))) {
+                unlike = left.get(i) + ", and without it " + right.get(i);
+            }
+        }
+        due(call + " changes " + unlike, unlike.isEmpty(), true);
     }
 
     static void lie(String call, WebCourt x, int... numbers) {
