@@ -54,6 +54,7 @@ final class EdgeCounsel {
         Check.due("not by none", shortOf(Check.court(SIX + "case x at k pleads f;law many < 2;"), 0), 1001);
         Check.due("by none alone", Check.court(SIX + "case x at k pleads f;law many = 0;").shortest(0, 0), NONE);
         Check.due("it stays by all", Check.court(SIX + "case x at k pleads f;law 0;").shortest(0, 0), NONE);
+        Check.due("no more than there are", Check.court("knot k;plea a strong 1;case x at k pleads a;law many = 2;").shortest(0, 0), NONE);
         String eight = "knot k;plea a strong 0;plea b strong 0;plea c strong 0;plea d strong 0;plea e strong 1;plea f strong 1;"
                 + "plea g strong 1;plea h strong 1;case x at k pleads a;";
         Check.due("the last four", shortOf(Check.court(eight + "law pleads - 3;"), 0), 4000 + 0b11110000);
@@ -117,6 +118,12 @@ final class EdgeCounsel {
         x.spin(1);
         Check.due("way(3) then", x.way(3), 2);
         Check.lie("way(3): over c", x, 0, 2, 3);
+        WebCourt beside = Check.court("knot a;knot b;knot c;knot d;line b d;line a c;line c d;");
+        Check.due("way(3), b being as near to d but not next to a", beside.way(3), 2);
+        Check.lie("way(3) by c", beside, 0, 2, 3);
+        WebCourt over = Check.court("knot a;knot b;knot c;line b a;line a c;bench c;");
+        Check.due("way(1) over the first knot", over.way(1), 2);
+        Check.lie("way(1) over the first knot", over, 2, 0, 1);
         Check.says(20, "how many HOURS (0: SHE is there); NONE if SHE can't come there, or there is none such.");
         Check.due("way(0)", x.way(0), 0);
         Check.lie("way(0)", x, 0);
@@ -227,6 +234,12 @@ final class EdgeCounsel {
         Check.due("kept behind it", under("(hour = 1) - (hour > 1)").leave(0), 2);
         Check.due("by 30", under("hour > 28").leave(0), 30);
         Check.due("by 31", under("hour > 29").leave(0), NONE);
+        WebCourt last = under("stays > 98");
+        for (int i = 0; i < 97; i++) {
+            last.hear(0);
+            last.hour(0);
+        }
+        Check.due("97, 98 and 99", last.leave(0), 3);
         WebCourt most = under("stays > 99");
         for (int i = 0; i < 99; i++) {
             most.hear(0);
@@ -243,6 +256,9 @@ final class EdgeCounsel {
         x.hear(0);
         Check.due("let off", x.leave(0), NONE);
         Check.due("another one, elsewhere or not", x.leave(1), 1);
+        WebCourt by = Check.court(THREE + "law pleads = 5 and stays = 2;");
+        Check.due("by its own pleas", by.leave(1), 3);
+        Check.due("by pleas that do not", by.leave(2), NONE);
         WebCourt kept = under("(hour > 0) - (hour = 0)");
         kept.hear(0);
         kept.hour(0);
@@ -279,6 +295,15 @@ final class EdgeCounsel {
         first.hear(0);
         // Kin is 1 at each knot: all stay.
         Check.due("0 is let off", first.contrary(0), NONE);
+        WebCourt next = Check.court("knot a;knot b;knot c;plea p strong 3;case u at a pleads p;case v at c pleads p;"
+                + "case w at b pleads p;case x at b pleads p;law kin;");
+        Check.due("0 and 2, 0 and 1 being alike", next.contrary(0) * 10 + next.contrary(1), 2);
+        WebCourt close = Check.court("knot a;knot b;plea p strong 3;case u at a pleads p;case v at b pleads p;"
+                + "case w at b pleads p;law kin;");
+        Check.due("0 and 1", close.contrary(0) * 10 + close.contrary(1), 1);
+        WebCourt behind = Check.court("knot a;knot b;plea p strong 3;plea q strong 3;case u at a pleads p;case v at a pleads q;"
+                + "case w at b pleads q;law kin;");
+        Check.due("1 and 2", behind.contrary(0) * 10 + behind.contrary(1), 12);
         Check.says(24, "NONE if there are none, or for another what");
         WebCourt x = Check.court(twos + "law kin - 1;");
         for (int what : NO_WHAT) {
@@ -296,6 +321,10 @@ final class EdgeCounsel {
         Check.due("it stays by all", Check.court(SIX + two + "law 0;").hopeless(), 0b111);
         Check.due("by kin", Check.court(SIX + two + "law pleads - 7 - kin;").hopeless(), 0b110);
         Check.due("by none alone", Check.court(SIX + two + "law many = 0;").hopeless(), 0b111);
+        Check.due("no more than there are",
+                Check.court("knot k;plea a strong 1;case x at k pleads a;law many = 2;").hopeless(), 1);
+        Check.due("by the first alone",
+                Check.court("knot k;plea a strong 9;plea b strong 1;case x at k pleads b;law pleads = 9;").hopeless(), 0);
         Check.says(25, "HOPELESS, as bits.");
         WebCourt x = Check.court(SIX + two + "law 0 - 1;");
         x.hear(0);
@@ -336,6 +365,12 @@ final class EdgeCounsel {
         Check.lie("all rest", all, 0, 0);
         all.rivals(0, 0);
         Check.lie("NONE", all);
+        WebCourt one = Check.court("knot k;plea a strong 9;case u at k pleads a;case v at k pleads a;");
+        Check.due("one plea", one.rivals(0, 1), 1);
+        Check.lie("one plea", one, 0, 0);
+        WebCourt best = Check.court("knot k;plea a strong 1;plea b strong 2;plea c strong 3;case u at k pleads a;case v at k pleads a;");
+        Check.due("the two best", best.rivals(0, 1), 2);
+        Check.lie("the two best", best, 1, 2);
         // u, alone at its knot, wants what v has; v does not.
         WebCourt none = Check.court("knot k;knot l;plea a strong 4;plea b strong 4;case u at k pleads a;case v at l pleads a;"
                 + "case w at l pleads a;law (kin = 0) = (many = 0);");
@@ -359,6 +394,10 @@ final class EdgeCounsel {
         Check.due("without c d, d e being sticky, to d alone", x.bridge(0) * 10 + x.bridge(1), 21);
         WebCourt ring = Check.court("knot a;knot b;knot c;line a b;line b c;line c a;");
         Check.due("bridge(0) of a ring", ring.bridge(0) * 10 + ring.bridge(1), 3);
+        WebCourt great = Check.court(CHAIN + "line h a;");
+        Check.due("bridge(0) of a ring of eight", great.bridge(0) * 10 + great.bridge(1), 8);
+        WebCourt sticky = Check.court("knot a;knot b;knot c;knot d;knot e;line a d sticky;line a e sticky;line a b;line b c;line c a;");
+        Check.due("sticky ones are none", sticky.bridge(0) * 10 + sticky.bridge(1), 23);
         Check.says(27, "how many KNOTS SHE could come to then (hers, too)");
         WebCourt two = Check.court("knot a;knot b;line a b;");
         Check.due("bridge(1): hers", two.bridge(1), 1);
@@ -380,8 +419,13 @@ final class EdgeCounsel {
         Check.due("p", x.forbid(0) * 10 + x.forbid(1), 0);
         WebCourt like = Check.court("knot a;plea o strong 1;plea p strong 9;plea q strong 9;case x at a pleads p;case y at a pleads q;");
         Check.due("p, the first of two", like.forbid(0) * 10 + like.forbid(1), 11);
+        WebCourt last = Check.court("knot a;plea o strong 1;plea p strong 2;plea q strong 9;case x at a pleads o p q;case y at a pleads q;");
+        Check.due("q, none is let off then", last.forbid(0) * 10 + last.forbid(1), 20);
         Check.due("none left, many 0",
                 Check.court("knot a;plea p strong 9;case x at a pleads p;law many = 0;").forbid(1), 1);
+        WebCourt six = Check.court("knot a;plea p strong 9;case r at a pleads p;case s at a pleads p;case t at a pleads p;"
+                + "case u at a pleads p;case v at a pleads p;case w at a pleads p;law 1;");
+        Check.due("six without any", six.forbid(0) * 10 + six.forbid(1), 6);
         Check.says(28, "NONE without PLEAS, or for another what");
         for (int what : NO_WHAT) {
             Check.due("forbid(" + what + ")", x.forbid(what), NONE);
@@ -410,6 +454,14 @@ final class EdgeCounsel {
         Check.says(29, "of like ones the first (the lesser number, then the other one)");
         Check.due("swap(0)", x.swap(0), 0);
         Check.due("swap(1)", x.swap(1), 2);
+        // x, alone, needs 6, y and z need 10 and stay with 9; as it is x is let off, z stays.
+        WebCourt three = Check.court("knot k;knot l;plea a strong 10;plea b strong 6;plea c strong 9;case x at k pleads a;"
+                + "case y at l pleads b;case z at l pleads c;law pleads - 5 - kin * 4;");
+        Check.due("x and y ahead of x and z", three.swap(0) * 100 + three.swap(1) * 10 + three.swap(2), 12);
+        WebCourt turned = Check.court("knot k;knot l;plea a strong 10;plea b strong 6;plea c strong 5;case w at k pleads c;"
+                + "case y at l pleads b;case x at k pleads a;law pleads - 5 - kin * 4;");
+        // w and x need 10, y needs 6; as it is x and y are let off, and no more by any exchange.
+        Check.due("no more than two", turned.swap(2), NONE);
         Check.says(29, "NONE if there are none, or for another what");
         for (int what : new int[] {-1, 3, 4, MIN, MAX}) {
             Check.due("swap(" + what + ")", x.swap(what), NONE);
@@ -419,6 +471,12 @@ final class EdgeCounsel {
         x.hear(0);
         // x is kept, kin is 0 at k: y and z are let off as it is.
         Check.due("x is not held", x.swap(0), NONE);
+        WebCourt kept = Check.court("knot k;plea a strong 1;plea b strong 2;case x at k pleads a;case y at k pleads b;");
+        kept.hear(0);
+        Check.due("one is kept, none is let off", kept.swap(0), NONE);
+        WebCourt off = Check.court("knot k;plea a strong 1;plea b strong 9;case x at k pleads a;case y at k pleads b;");
+        off.hear(1);
+        Check.due("one that is let off has the better plea", off.swap(0), NONE);
     }
 
     private static void advising() {
@@ -431,6 +489,12 @@ final class EdgeCounsel {
         Check.says(30, "its VERDICT were greatest; of like ones the first");
         WebCourt y = Check.court("knot k;plea a strong 4;plea b strong 7;plea c strong 7;case x at k pleads a;");
         Check.due("the first of two", y.advice(0, 0) * 10 + y.advice(0, 1), 16);
+        WebCourt last = Check.court("knot k;plea a strong 4;plea b strong 1;plea c strong 9;case x at k pleads a;");
+        Check.due("the last one", last.advice(0, 0) * 10 + last.advice(0, 1), 28);
+        WebCourt worse = Check.court("knot k;plea a strong 4;plea b strong 7;plea c strong 2;case w at k pleads a;"
+                + "case x at k pleads b;law 0 - many * 10 - pleads;");
+        Check.due("each is worse than none", worse.advice(1, 0), 2);
+        Check.due("each is worse than none: verdict", worse.advice(1, 1), -29);
         WebCourt below = Check.court("knot k;plea a strong 4;plea b strong 7;plea c strong 6;case x at k pleads a;law 0 - pleads;");
         Check.due("below 0", below.advice(0, 0), 2);
         Check.due("below 0: verdict", below.advice(0, 1), -10);
@@ -505,6 +569,9 @@ final class EdgeCounsel {
         x.hear(0);
         Check.due("not held", x.loophole(0), NONE);
         Check.due("held", x.loophole(1), 0);
+        WebCourt by = Check.court(THREE + "law pleads = 5 and hour = 6;");
+        Check.due("by its own pleas", by.loophole(1), 6);
+        Check.due("by pleas that do not", by.loophole(2), NONE);
     }
 
     private static void precedents() {

@@ -16,8 +16,11 @@ final class EdgeCourt {
         atFirst();
         reckoning();
         hearings();
+        beforeOfEach();
+        stayedOfEach();
         hours();
         comingBack();
+        acts();
         undoing();
         looking();
         hourAndHear();
@@ -133,6 +136,66 @@ final class EdgeCourt {
         Check.due("hear(0), the other being undone", x.hear(0), 1);
     }
 
+    private static final String ALL_SIX = "knot a;plea p strong 3;case s at a pleads p;case t at a pleads p;"
+            + "case u at a pleads p;case v at a pleads p;case w at a pleads p;case x at a pleads p;";
+
+    private static void beforeOfEach() {
+        Check.says(0, "it was LET OFF so often BEFORE, STAYED so often");
+        WebCourt x = Check.court(ALL_SIX + "law (hour > 0 and hour < 20) + (hour = 0)*(before - 3) + (hour > 25)*(before - 2);");
+        for (int item = 1; item < 6; item++) {
+            for (int i = 0; i < item; i++) {
+                x.hour(0);
+                Check.due("hear(" + item + ")", x.hear(item), 1);
+                x.grab(item);
+            }
+        }
+        for (int i = 15; i < 20; i++) {
+            x.hour(0);
+        }
+        for (int item = 0; item < 6; item++) {
+            Check.due("before of " + item, x.item(item, 4), item);
+            Check.due("stayed of " + item, x.item(item, 5), 0);
+            // From the hour 20 on it stays till the hour 26.
+            Check.due("leave(" + item + ")", x.leave(item), item < 3 ? NONE : 7);
+            Check.due("loophole(" + item + ")", x.loophole(item), item > 3 ? 0 : 1);
+        }
+        for (int i = 20; i < 26; i++) {
+            x.hour(0);
+        }
+        for (int item = 0; item < 6; item++) {
+            Check.due("verdict(" + item + ")", x.verdict(item), item - 2);
+        }
+        Check.due("precedent(2)", x.precedent(2), 0);
+        Check.due("precedent(3)", x.precedent(3), 6);
+        Check.due("free()", x.free(), 0b111000);
+        Check.due("likeliest()", x.likeliest(), 5);
+    }
+
+    private static void stayedOfEach() {
+        Check.says(0, "it was LET OFF so often BEFORE, STAYED so often");
+        WebCourt x = Check.court(ALL_SIX + "plea q strong 1;law stays * (hour > 20);");
+        for (int item = 1; item < 6; item++) {
+            for (int i = 0; i < item; i++) {
+                Check.due("hear(" + item + ")", x.hear(item), 0);
+                x.hour(0);
+            }
+        }
+        for (int i = 15; i < 21; i++) {
+            x.hour(0);
+        }
+        for (int item = 0; item < 6; item++) {
+            Check.due("stayed of " + item, x.item(item, 5), item);
+            Check.due("before of " + item, x.item(item, 4), 0);
+            Check.due("verdict(" + item + ")", x.verdict(item), item);
+            Check.due("advice(" + item + ", 1)", x.advice(item, 1), item);
+            Check.due("shortest(" + item + ", 0)", x.shortest(item, 0), item == 0 ? NONE : 1);
+            Check.due("leave(" + item + ")", x.leave(item), item == 0 ? 2 : 1);
+            Check.due("loophole(" + item + ")", x.loophole(item), item == 0 ? NONE : 21);
+        }
+        Check.due("precedent(9)", x.precedent(9), 5);
+        Check.due("hopeless()", x.hopeless(), 1);
+    }
+
     private static void hours() {
         Check.says(0, "SHE goes to a KNOT next to hers by a LINE that is not sticky, or waits; the hour goes up by 1");
         WebCourt x = Check.court("knot a;knot b;knot c;knot d;line b a;line c b sticky;line c d;");
@@ -168,6 +231,17 @@ final class EdgeCourt {
         x.hear(0);
         x.hour(0);
         Check.due("two: the seed", x.about(7), 868);
+        // From 52: 195; 786 and 753; 232, 855 and 206.
+        WebCourt three = Check.court(all + "draw 52;back 50;");
+        for (int item = 0; item < 3; item++) {
+            three.hear(item);
+            Check.due("who comes back in hour " + item, three.hour(0), item < 2 ? 0 : 0b101);
+        }
+        Check.due("held then", three.knot(0, 2), 0b101);
+        Check.due("the seed of all three", three.about(7), 206);
+        WebCourt six = Check.court(ALL_SIX + "knot b;line a b sticky;law 0;draw 7;back 100;");
+        Check.due("nobody of six is let off", six.hour(0), 0);
+        Check.due("no seed is drawn for six", six.about(7), 7);
         WebCourt kept = Check.court(ALONE + "law 0-1;back 100;draw 7;");
         kept.hear(0);
         Check.due("who is kept does not come back", kept.hour(0), 0);
@@ -188,10 +262,48 @@ final class EdgeCourt {
         WebCourt hundred = Check.court(ALONE + "law 1;draw 44;back 100;");
         hundred.hear(0);
         Check.due("99 is below 100", hundred.hour(0), 1);
+        // From 517 the seed becomes 900.
+        WebCourt nine = Check.court(ALONE + "law 1;draw 517;back 1;");
+        nine.hear(0);
+        Check.due("0 is below 1", nine.hour(0), 1);
         // 137 * 847 + 71 = 116110: the rest of 110 is 10.
         WebCourt rest = Check.court(ALONE + "law 1;draw 847;back 11;");
         rest.hear(0);
         Check.due("10 is below 11", rest.hour(0), 1);
+    }
+
+    private static void acts() {
+        Check.says(0, "ACTS: an HOUR; a HEARING; a PLEA is taken up by a CASE, or dropped; a CASE that is not HELD is caught (HELD); "
+                + "a LINE becomes sticky, or is no more.");
+        WebCourt x = Check.court(THREE);
+        x.hour(0);
+        Check.due("an hour", x.about(8), 1);
+        x.hear(0);
+        Check.due("a hearing", x.about(8), 2);
+        x.plead(0, 1);
+        Check.due("a plea is taken up", x.about(8), 3);
+        x.drop(0, 0);
+        Check.due("a plea is dropped", x.about(8), 4);
+        x.grab(0);
+        Check.due("a case is caught", x.about(8), 5);
+        x.spin(0);
+        Check.due("a line becomes sticky", x.about(8), 6);
+        x.spin(0);
+        Check.due("it is no more", x.about(8), 7);
+        int[] sticky = {1, 0, 0, 0, 0, 0, 0};
+        int[] state = {0, 0, 1, 1, 1, 0, 0};
+        int[] pleas = {2, 2, 2, 3, 1, 1, 1};
+        int[] hour = {1, 1, 1, 1, 1, 1, 0};
+        for (int i = 0; i < 7; i++) {
+            Check.due("undo() " + i, x.undo(), true);
+            Check.due("sticky " + i, x.about(15), sticky[i]);
+            Check.due("state " + i, x.item(0, 1), state[i]);
+            Check.due("pleas " + i, x.item(0, 2), pleas[i]);
+            Check.due("hour " + i, x.about(5), hour[i]);
+        }
+        Check.due("no more acts", x.undo(), false);
+        Check.due("an image is no act", x.image(0) + x.about(8), 0);
+        Check.due("a way is no act", x.way(1) * 10 + x.about(8), 10);
     }
 
     private static void undoing() {
@@ -428,6 +540,14 @@ final class EdgeCourt {
             Check.due("stayed of 1", x.item(1, 5), 1);
             Check.due("pleas of 2", x.item(2, 2), 0b101);
             Check.due("who is held", x.knot(0, 2), 0b111);
+        }
+        WebCourt boxes = Check.court(THREE);
+        for (int box = 0; box < 3; box++) {
+            Check.due("image(" + box + ") of three", boxes.image(box), box);
+            boxes.hour(0);
+        }
+        for (int box = 0; box < 3; box++) {
+            Check.due("restore(" + box + ") of three", boxes.restore(box), box);
         }
         WebCourt y = Check.court(THREE);
         for (int box : new int[] {-1, 3, 32, MIN, MAX}) {

@@ -63,6 +63,15 @@ final class EdgeHearsay {
         Check.due("the first is known", first.fits(0), 31);
         first.heard(0, 8, true);
         Check.due("it is not 8", first.fits(0), 0);
+        WebCourt both = Check.court(WEB);
+        both.heard(2, 10, true);
+        Check.due("3 + s - 5 is 10 at least", both.fits(0) * 100 + both.sure(0, 0), 1912);
+        WebCourt kin = Check.court("knot k;knot l;plea a strong 3;plea b strong 9;case x at k pleads b;case y at k pleads a;"
+                + "case z at l pleads b;law pleads + kin * 100;");
+        kin.heard(1, 103, true);
+        kin.heard(0, 110, true);
+        kin.heard(2, 20, false);
+        Check.due("kin of each", kin.fits(0) * 100 + kin.sure(0, 0), 1010);
         Check.says(0, "that the VERDICT of a CASE was so much at least, or was not");
         for (int bound = 0; bound <= 31; bound++) {
             WebCourt least = Check.court("knot k;plea a strong 7;case x at k pleads a;law pleads;");
@@ -104,6 +113,14 @@ final class EdgeHearsay {
         WebCourt stays = Check.court("knot k;plea a strong 20;case x at k pleads a;law pleads/10 - 1;");
         // 0 .. 9 is kept, 10 .. 19 stays, 20 .. 30 is let off.
         Check.due("three ways", stays.ask(1, 0), 11);
+        String[] laws = {"1", "0", "0-1", "pleads > 20", "pleads = 0", "0-(pleads > 9)", "(pleads > 7)-(pleads < 5)",
+            "0-(pleads > 15)*pleads", "(pleads > 15)*pleads"};
+        int[] left = {31, 31, 31, 21, 30, 21, 23, 16, 16};
+        for (int i = 0; i < laws.length; i++) {
+            WebCourt one = Check.court("knot k;plea a strong 20;case x at k pleads a;law " + laws[i] + ";");
+            Check.due("left by " + laws[i], one.ask(1, 0), left[i]);
+            Check.due("asked by " + laws[i], one.ask(0, 0), 0);
+        }
     }
 
     private static void heard() {

@@ -39,6 +39,8 @@ final class EdgeText {
         Check.due("knots told by the last bytes of 1,600", Check.fine(full("knot z;"), 0).about(1), 1);
         Check.fault(full("#"), 1, 1599);
         Check.fault(full("knot z"), 2, 1600);
+        Check.fault(full("draw 12"), 2, 1600);
+        Check.fault(full("draw 12345"), 1, 1595);
         Check.says(0, "words (a .. z, 8 at most)");
         Check.fine("knot azazazaz;", 0);
         Check.due("two of 8 letters", Check.fine("knot abcdefgh;knot abcdefgi;knot zbcdefgh;", 0).about(1), 3);
@@ -143,6 +145,8 @@ final class EdgeText {
         Check.due("pleas", x.plea(0) * 10 + x.plea(1), 38);
         Check.due("knots next to y", x.knot(1, 0) * 10 + x.knot(1, 1), 41);
         Check.due("sticky lines", x.about(15), 1);
+        Check.due("two sticky lines of three",
+                Check.fine("knot a;knot b;knot c;line a b sticky;line a c;line b c sticky;", 0).about(15), 0b101);
         Check.says(0, "bench (a KNOT told ahead; the first one, if it is not told)");
         Check.fault("bench a;knot a;", 5, 6);
         Check.due("no bench", Check.fine("knot a;knot b;", 0).about(4), 0);
@@ -177,6 +181,10 @@ final class EdgeText {
         Check.due("seven nots ahead of each unit: 1",
                 Check.court("knot k;plea p strong 1;case x at k pleads p;law " + "not not not not not not not 0 and ".repeat(29)
                         + "not not not not not not not 0;").verdict(0), 1);
+        WebCourt open = Check.court("knot k;plea p strong 1;case x at k pleads p;law 0 or 1 and 9>2+3*(0 or 1 and 9>2+3*("
+                + "0 or 1 and 9>2+3*(0 or 1 and 9>2+3*(0 or 1 and 9>2+3*0))));");
+        Check.due("all signs open at once: units", open.about(13), 30);
+        Check.due("all signs open at once: verdict", open.verdict(0), 1);
         Check.says(0, "a unit ( e ), or a one behind not, within 6 others at most");
         Check.fine("law " + "(".repeat(7) + "1" + ")".repeat(7) + ";", 0);
         Check.fault("law " + "(".repeat(8) + "1" + ")".repeat(8) + ";", 2, 11);
@@ -359,6 +367,14 @@ final class EdgeText {
         x.feed(0x7a3b2020, 0x20202020, 0x20202020, 0x20202020, 0x20202020);
         Check.due("what was cut off is gone", x.about(12), 27);
         Check.due("web(): knot abz", x.web(), 0);
+        String[] cut = {"draw 1234;", "draw 12", "draw 12x;", "draw 12", "knot knots;", "knot kno", "knot a;#", "knot a"};
+        for (int i = 0; i < cut.length; i += 2) {
+            WebCourt y = new WebCourt();
+            Check.feed(y, cut[i]);
+            y.end(cut[i + 1].length());
+            Check.due("web() of " + cut[i] + " cut", y.web(), NONE);
+            Check.due("only the ; is missed", y.fault(0) * 100 + y.fault(1), 200 + cut[i + 1].length());
+        }
         Check.due("end(0) of an empty tape", x.end(0), 0);
         Check.feed(x, "#");
         Check.due("end(0) of one byte", x.end(0), 0);
@@ -382,7 +398,7 @@ final class EdgeText {
     private static WebCourt rich() {
         WebCourt x = Check.court(RICH);
         x.later(6);
-        x.heard(0, 1, true);
+        x.heard(1, 20, true);
         x.image(0);
         x.image(1);
         x.image(2);
@@ -426,6 +442,7 @@ final class EdgeText {
         Check.due("no law, no back: units", x.about(13), 0);
         Check.due("no back: odds", x.odds(1, 0), 1);
         Check.due("nowhere", x.about(4), NONE);
+        again();
         Check.says(4, "NONE: a FAULT (all stays)");
         for (String text : new String[] {"#", "knot a;knot a;", "draw 1000;", "bench z;", "law 1+2+3;knot",
             "knot q;plea z strong 20;case w at q pleads z;back 7;draw 8;bench q;law 1;knot q;"}) {
@@ -435,6 +452,34 @@ final class EdgeText {
             Check.feed(twin, text);
             Check.due("web() of " + text, one.web(), NONE);
             Check.same("web() of " + text, one, twin);
+        }
+    }
+
+    /** Of a web told earlier nothing is left, however many were told. */
+    private static void again() {
+        Check.says(4, "all as told, hour 0");
+        String much = "knot a;knot b;line a b sticky;plea p strong 9;plea q strong 4;case x at a pleads p;"
+                + "case y at b pleads q;bench b;law pleads - 4;back 70;draw 33;";
+        String little = "knot k;knot l;plea p strong 7;case x at k pleads p;";
+        WebCourt x = new WebCourt();
+        for (String text : new String[] {much, much, little, little, much, "", "", little}) {
+            Check.feed(x, text);
+            boolean full = text.equals(much);
+            boolean empty = text.isEmpty();
+            Check.due("web() of " + text, x.web(), full ? 2 : empty ? 0 : 1);
+            Check.due("lines", x.about(2), full ? 1 : 0);
+            Check.due("sticky lines", x.about(15), full ? 1 : 0);
+            Check.due("pleas", x.about(3), full ? 2 : empty ? 0 : 1);
+            Check.due("she", x.about(4), full ? 1 : empty ? NONE : 0);
+            Check.due("next to knot 0", x.knot(0, 0), empty ? NONE : 0);
+            Check.due("next to knot 0, sticky", x.knot(0, 1), full ? 2 : empty ? NONE : 0);
+            Check.due("where she can come", x.reach(), full ? 2 : empty ? 0 : 1);
+            Check.due("seed", x.about(7), full ? 33 : 0);
+            Check.due("units", x.about(13), full ? 2 : 0);
+            Check.due("odds", x.odds(1, 0), full ? 3 : 1);
+            Check.due("verdict(0)", x.verdict(0), full ? 5 : empty ? -1000000000 : 2);
+            Check.due("stayed", x.item(1, 5), full ? 0 : NONE);
+            Check.due("hear(1)", x.hear(1), full ? 0 : NONE);
         }
     }
 

@@ -119,7 +119,9 @@ public final class OracleTest {
         } else if (name.equals("term") || name.equals("precedent") || name.equals("untell")) {
             arguments[0] = random.nextInt(34) - 1;
         } else if (name.equals("spin")) {
-            arguments[0] = random.nextInt(10);
+            arguments[0] = random.nextInt(16);
+        } else if (name.equals("plead") || name.equals("drop")) {
+            arguments[1] = random.nextInt(9);
         }
         return arguments;
     }
@@ -149,14 +151,16 @@ public final class OracleTest {
 
     private String webText() {
         StringBuilder text = new StringBuilder();
-        int knots = 1 + random.nextInt(6);
-        int pleas = 1 + random.nextInt(6);
+        int knots = 1 + random.nextInt(8);
+        int pleas = 1 + random.nextInt(8);
+        int lines = random.nextInt(50) == 0 ? 15 : 14;
         for (int i = 0; i < knots; i++) {
             text.append("knot ").append(NAMES[i]).append(";");
         }
         for (int i = 0; i < knots; i++) {
             for (int j = i + 1; j < knots; j++) {
-                if (random.nextInt(knots) < 2) {
+                if (random.nextInt(knots) < 3 && lines > 0) {
+                    lines--;
                     text.append("line ").append(NAMES[j]).append(' ').append(NAMES[i])
                             .append(random.nextInt(4) == 0 ? " sticky;" : " ;");
                 }
