@@ -159,6 +159,21 @@ final class EdgeCounsel {
         Check.due("round()", y.round(), 3);
         Check.lie("round()", y, 0, 2, 1);
         Check.lie("three here, one was heard", laid(x), 0, 1, 2);
+        Check.says(0, "the HOURS that go by from now to the last HEARING), what comes of it does not matter");
+        WebCourt kept = Check.court(CHAIN + "case x at c pleads p;case y at a pleads p;law 0-1;");
+        Check.due("both would be kept", kept.round(), 2);
+        Check.lie("both would be kept", kept, 1, 0);
+        WebCourt later = Check.court(CHAIN + "case x at c pleads p;case y at b pleads p;");
+        for (int i = 0; i < 9; i++) {
+            later.hour(0);
+        }
+        Check.due("from now, not from the first hour", later.round(), 2);
+        Check.says(0, "nobody comes back, if not told otherwise");
+        WebCourt gone = Check.court("knot a;knot b;line a b;plea p strong 9;case x at a pleads p;case y at b pleads p;back 100;");
+        gone.hear(0);
+        Check.due("x is let off", gone.round(), 1);
+        Check.lie("x is let off", gone, 1);
+        Check.due("term(30)", gone.term(30), 1);
         Check.says(21, "NONE if none is HELD, or SHE can't come to one.");
         WebCourt off = Check.court("knot a;plea p strong 9;case x at a pleads p;");
         off.hear(0);
@@ -342,6 +357,16 @@ final class EdgeCounsel {
         Check.due("pleads 0 is best", Check.court(two + "law 0 - pleads;").rivals(1, 0), 2);
         Check.due("only many = 1 counts", Check.court(two + "law many = 1;").rivals(1, 0), 2);
         Check.due("many 2 is never", Check.court(two + "law many = 2;").rivals(1, 0), 4);
+        Check.says(0, "at RESTS neither, the other one's staying so, would have a greater one by another PLEA");
+        // u, with kin, would have the lesser, w the greater; like ones are no greater.
+        String mixed = "knot k;knot l;plea a strong 4;plea b strong 7;plea c strong 7;case u at k pleads a;case v at k pleads a;"
+                + "case w at l pleads a;law (many = 1) * (9 + pleads - pleads * 2 * kin);";
+        WebCourt rests = Check.court(mixed);
+        // u: a 5, b 2, c 2; w: a 13, b 16, c 16; 0 for the same one.
+        Check.due("u a and w b, u a and w c", rests.rivals(0, 2), 2);
+        Check.lie("u a and w b", rests, 0, 1);
+        Check.due("turned", rests.rivals(2, 0), 2);
+        Check.lie("turned", rests, 1, 0);
         Check.says(26, "NONE if both are one, one is not HELD, there are no PLEAS, or one can't be.");
         WebCourt y = Check.court(THREE);
         Check.due("rivals(1, 1)", y.rivals(1, 1), NONE);

@@ -588,6 +588,19 @@ final class EdgeCourt {
         Check.due("about(8)", x.about(8), 2);
         x.undo();
         Check.due("about(8), about(9)", x.about(8) * 10 + x.about(9), 11);
+        Check.says(47, "10: what is HEARD, 11: the TIME, 12: bytes on the TAPE, 13: units, 14: numbers that lie there, "
+                + "15: LINES that are sticky, as bits.");
+        WebCourt y = Check.court(THREE + "law pleads - (5);");
+        y.later(1000);
+        y.heard(0, 1, true);
+        y.heard(1, 1, true);
+        Check.feed(y, "abc");
+        y.way(1);
+        y.spin(0);
+        int[] due = {2, 1000, 3, 3, 2, 1};
+        for (int i = 0; i < due.length; i++) {
+            Check.due("about(" + (10 + i) + ")", y.about(10 + i), due[i]);
+        }
         Check.says(47, "NONE for another what.");
         for (int what : new int[] {-1, 16, 17, 32, MIN, MAX}) {
             Check.due("about(" + what + ")", x.about(what), NONE);

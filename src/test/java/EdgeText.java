@@ -19,6 +19,7 @@ final class EdgeText {
         tokens();
         limits();
         formulaLimits();
+        grammar();
         faults();
         misplaced();
         newObject();
@@ -197,7 +198,40 @@ final class EdgeText {
         Check.fine("law " + "not ".repeat(7) + "1 and " + "not ".repeat(7) + "1;", 0);
     }
 
+    private static int law(String formula) {
+        return Check.court("knot k;plea p strong 1;case x at k pleads p;law " + formula + ";").verdict(0);
+    }
+
+    private static void grammar() {
+        Check.says(0, "e = both {or both}.");
+        Check.due("or is the loosest", law("1 or 0 and 0"), 1);
+        Check.due("many of them", law("0 or 0 or 0 or 7"), 1);
+        Check.due("one both is as it is", law("7"), 7);
+        Check.says(0, "both = one {and one}.");
+        Check.due("and is closer than or", law("0 and 0 or 1"), 1);
+        Check.due("many of them", law("1 and 2 and 3 and 0"), 0);
+        Check.says(0, "one = not one | sum [(< | > | =) sum].");
+        Check.due("not takes the relation", law("not 1 = 2"), 1);
+        Check.due("not takes the sum", law("not 0 + 1"), 0);
+        Check.due("not is closer than and", law("not 0 and 0"), 0);
+        Check.due("a relation of sums", law("1 + 2 < 2 * 2"), 1);
+        Check.fault("law 1 < 2 < 3;", 2, 10);
+        Check.says(0, "sum = term {(+ | -) term}.");
+        Check.due("from the left", law("10 - 3 - 2 + 1"), 6);
+        Check.says(0, "term = unit {(* | / | %) unit}.");
+        Check.due("from the left", law("20 / 6 * 4 % 7"), 5);
+        Check.due("closer than a sum", law("2 + 3 * 4 - 9 % 5"), 10);
+        Check.says(0, "unit = N | pleads | many | before | stays | kin | hour | ( e ).");
+        Check.due("all of them", law("(pleads + many + before + stays + kin + hour + 0007)"), 9);
+        Check.fault("law strong;", 2, 4);
+        Check.fault("law p;", 2, 4);
+    }
+
     private static void faults() {
+        Check.says(0, "1 no TOKEN");
+        Check.fault("knot a;_", 1, 7);
+        Check.fault("knot a; knot b; back 5, draw 5;", 1, 22);
+        Check.fault("law 1 & 2;", 1, 6);
         Check.says(0, "the first by its place");
         Check.fault("draw 1000;knot a;knot a;#", 4, 5);
         Check.fault("knot a;knot a;draw 1000;#", 3, 12);
@@ -307,6 +341,8 @@ final class EdgeText {
     }
 
     private static void newObject() {
+        Check.says(0, "The constants: `NONE = -1`: There is none.");
+        Check.due("NONE", WebCourt.NONE, -1);
         Check.says(1, "An empty WEB.");
         WebCourt x = new WebCourt();
         for (int what = 0; what <= 15; what++) {
