@@ -168,6 +168,12 @@ final class EdgeCounsel {
             later.hour(0);
         }
         Check.due("from now, not from the first hour", later.round(), 2);
+        WebCourt passed = Check.court("knot a;knot b;knot c;line a b;line b c;plea p strong 9;case x at b pleads p;case y at c pleads p;");
+        passed.hour(1);
+        passed.hear(0);
+        passed.hour(0);
+        Check.due("she passes one that is not held", passed.round(), 2);
+        Check.lie("she passes one that is not held", passed, 1);
         Check.says(0, "nobody comes back, if not told otherwise");
         WebCourt gone = Check.court("knot a;knot b;line a b;plea p strong 9;case x at a pleads p;case y at b pleads p;back 100;");
         gone.hear(0);
@@ -396,6 +402,10 @@ final class EdgeCounsel {
         WebCourt best = Check.court("knot k;plea a strong 1;plea b strong 2;plea c strong 3;case u at k pleads a;case v at k pleads a;");
         Check.due("the two best", best.rivals(0, 1), 2);
         Check.lie("the two best", best, 1, 2);
+        WebCourt eight = Check.court("knot k;plea a strong 1;plea b strong 2;plea c strong 3;plea d strong 4;plea e strong 5;"
+                + "plea f strong 6;plea g strong 7;plea h strong 8;case u at k pleads a;case v at k pleads a;");
+        Check.due("eight pleas", eight.rivals(0, 1), 2);
+        Check.lie("eight pleas", eight, 6, 7);
         // u, alone at its knot, wants what v has; v does not.
         WebCourt none = Check.court("knot k;knot l;plea a strong 4;plea b strong 4;case u at k pleads a;case v at l pleads a;"
                 + "case w at l pleads a;law (kin = 0) = (many = 0);");

@@ -110,6 +110,15 @@ final class EdgeHearsay {
         ask.heard(1, 1, true);
         Check.due("all are let off or kept alike", ask.ask(0, 0), 0);
         Check.due("all are left", ask.ask(1, 0), 25);
+        WebCourt little = Check.court("knot k;plea a strong 5;plea b strong 9;case x at k pleads a;case y at k pleads b;law pleads = 0;");
+        Check.due("30 are fewer than 31: the case", little.ask(0, 0), 1);
+        Check.due("30 are fewer than 31", little.ask(1, 0), 30);
+        WebCourt six = Check.court("knot k;plea a strong 5;plea b strong 9;case s at k pleads a;case t at k pleads a;"
+                + "case u at k pleads a;case v at k pleads a;case w at k pleads a;case x at k pleads b;law pleads - 15;");
+        Check.due("the last of six", six.ask(0, 0), 5);
+        Check.due("the last of six: left", six.ask(1, 0), 15);
+        six.heard(5, 1, true);
+        Check.due("fits by the last of six", six.fits(0), 15);
         WebCourt stays = Check.court("knot k;plea a strong 20;case x at k pleads a;law pleads/10 - 1;");
         // 0 .. 9 is kept, 10 .. 19 stays, 20 .. 30 is let off.
         Check.due("three ways", stays.ask(1, 0), 11);
