@@ -15,9 +15,9 @@ import java.util.TreeSet;
 final class Check {
     private static final Path DOCUMENT = Path.of("../shared/DOC.md");
     private static final Set<Integer> PROMISES = new TreeSet<>();
+    private static final Set<String> SENTENCES = new TreeSet<>();
     private static int wrong = 0;
     private static int checked = 0;
-    private static int sentences = 0;
     private static int checkedAhead = 0;
     private static String sentence = "";
     private static String document = "";
@@ -37,7 +37,7 @@ final class Check {
     static void says(int promise, String words) {
         closeSentence();
         sentence = "[" + (promise == 0 ? "Terms" : "Promise " + promise) + ": " + words + "] ";
-        sentences++;
+        SENTENCES.add(sentence);
         checkedAhead = checked;
         PROMISES.add(promise);
         String head = promise == 0 ? "## Terms" : "## Promise " + promise + ":";
@@ -50,7 +50,7 @@ final class Check {
     }
 
     private static void closeSentence() {
-        if (sentences > 0 && checked == checkedAhead) {
+        if (!SENTENCES.isEmpty() && checked == checkedAhead) {
             wrong++;
             System.out.println(sentence + "has no test");
         }
@@ -74,7 +74,7 @@ final class Check {
         for (int promise = 0; promise <= last; promise++) {
             due("a sentence of promise " + promise + " is tested", PROMISES.contains(promise), true);
         }
-        System.out.println(sentences + " sentences of the document were tested");
+        System.out.println(SENTENCES.size() + " sentences of the document were tested");
     }
 
     static void due(String call, boolean got, boolean want) {
