@@ -857,7 +857,7 @@ public final class WebCourt {
                 case WORD_BENCH:
                     return readBench();
                 case WORD_LAW:
-                    return readLaw();
+                    return openOnce() && readFormula(0);
                 case WORD_BACK:
                     return readBack();
                 case WORD_DRAW:
@@ -1071,10 +1071,6 @@ public final class WebCourt {
             }
             web.draw = numberTo(999);
             return web.draw != NONE;
-        }
-
-        private boolean readLaw() {
-            return openOnce() && readFormula(0);
         }
 
         // Each of these takes how many ( e ) and ones behind a not it stands within.
